@@ -73,7 +73,6 @@ public final class NineWells {
             sheets[i] = new Sheet();
         }
         errors = new int[KIND + 1];
-        images = 0;
     }
 
     // ---- wells, things

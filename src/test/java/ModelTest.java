@@ -178,12 +178,15 @@ public final class ModelTest {
         NineWells x = new NineWells();
         Model y = new Model();
         if (tame) {
-            for (int i = 3 + draws.nextInt(7); i > 0; i--) same("well()", x.well(), y.well());
+            for (int i = 1 + draws.nextInt(9); i > 0; i--) same("well()", x.well(), y.well());
             for (int i = 3 + draws.nextInt(8); i > 0; i--) {
                 int kind = draws.nextInt(7);
                 int m = draws.nextInt(5);
                 same("thing(" + kind + ", " + m + ")", x.thing(kind, m), y.thing(kind, m));
             }
+        }
+        if (draws.nextInt(12) == 0) {
+            for (int i = 0; i < 98; i++) same("days(100)", x.days(100), y.days(100));
         }
         for (int i = 0; i < CALLS; i++) one(x, y);
         all(x, y);

@@ -185,6 +185,9 @@ public final class PromisesTest {
         due("8: stays all the same", x.ofThing(0, 7), 1);
         x.going(0, 1, 3);
         due("8: lasts", x.ofThing(0, 6), 5);
+        x.going(0, 0, 3);
+        due("8: lasts, to 0", x.ofThing(0, 6), 5);
+        x.going(0, 1, 3);
         x.thing(0, 0);
         x.let(1, 0);
         due("8: one other isn't two", x.ofThing(0, 7), 1);
@@ -248,7 +251,9 @@ public final class PromisesTest {
         x.let(0, 1);
         due("11: fished", x.fish(0), 1);
         due("11: at that well", x.ofThing(0, 3), 1);
+        due("11: no days still", x.ofThing(0, 4), 0);
         due("11: let again", x.let(0, 0), 1);
+        due("11: no days still", x.ofThing(0, 4), 0);
         x.going(0, 1, 2);
         x.days(1);
         due("11: below", x.fish(0), STATE);
@@ -309,9 +314,9 @@ public final class PromisesTest {
 
     private static void law() {
         NineWells x = new NineWells();
-        String[] texts = {"1+2*3", "7-2-1", "2*3%4", "9/2*2", "1|0&0", "3=3", "2>1", "1>2", "1<1", "4&2", "4&0", "5|0", "0|0", "!5", "!0", "!!7", "!0+1", "(1+2)*3",
+        String[] texts = {"1+2*3", "7-2-1", "2*3%4", "9/2*2", "1|0&0", "3=3", "2>1", "1>2", "2>2", "(0|1)", "0", "1<1", "4&2", "4&0", "5|0", "0|0", "!5", "!0", "!!7", "!0+1", "(1+2)*3",
             "0-7/2", "(0-7)/2", "(0-7)%2", "7%(0-2)", "5/0", "5%0", "9999*9999*9999", "1+1<3", "1<2&2<1", "0=0|1/0", "5", "3-5", "1-(2-3)", "0010", "!(1<2)|4>3&0"};
-        int[] worths = {7, 4, 2, 8, 1, 1, 1, 0, 0, 1, 0, 1, 0, 0, 1, 1, 2, 9, -3, -3, -1, 1, 0, 0, 9999 * 9999 * 9999, 1, 0, 1, 5, -2, 2, 10, 0};
+        int[] worths = {7, 4, 2, 8, 1, 1, 1, 0, 0, 1, 0, 0, 1, 0, 1, 0, 0, 1, 1, 2, 9, -3, -3, -1, 1, 0, 0, 9999 * 9999 * 9999, 1, 0, 1, 5, -2, 2, 10, 0};
         for (int i = 0; i < texts.length; i++) {
             due("14: " + texts[i], text(x, 1, texts[i]), 1);
             due("14: " + texts[i], x.law(1, 0, 0, 0, 0), worths[i]);
@@ -531,6 +536,15 @@ public final class PromisesTest {
         y.floods(100);
         for (int i = 0; i < 100; i++) w.floods(1);
         same("16: a hundred as one by one", seenOf(y), seenOf(w));
+        NineWells one = wells(1);
+        one.floods(1);
+        int third = 1;
+        for (int i = 0; i < 3; i++) third = third * 1103515245 + 12345;
+        due("16: one well, to itself", one.ofWell(0, 0), 0);
+        due("16: of its days", one.ofWell(0, 1), (third >>> 8) % 9 + 1);
+        for (int i = 0; i < 99; i++) one.days(100);
+        due("16: would be above", one.floods(99), STATE);
+        due("16: the last", one.floods(98), 9999);
     }
 
     private static NineWells threeInARing() {
@@ -680,6 +694,9 @@ public final class PromisesTest {
         due("24: there each day", x.meet(0, 1), 4);
         due("24: there each day", x.meet(2, 1), 3);
         due("24: both nowhere", x.meet(3, 4), NONE);
+        x.going(3, 0, 1);
+        x.going(4, 0, 1);
+        due("24: meet in 0", x.meet(3, 4), 1);
         x.going(3, 3, 8);
         x.going(4, 3, 24);
         due("24: on day 24", x.meet(3, 4), 24);
@@ -716,6 +733,8 @@ public final class PromisesTest {
         x.going(2, 0, 9);
         due("25: the most", x.tenth(), 2);
         due("25: no well more", x.count(1), 4);
+        x.going(0, 1, 9);
+        due("25: the least, 0", x.tenth(), 0);
     }
 
     private static void finds() {
@@ -762,12 +781,15 @@ public final class PromisesTest {
         due("29: not sure", x.belows(0, 5, 2), 0);
         due("29: too far", x.belows(0, 1, 0), 0);
         due("29: none is first", x.belows(0, 1, 1), -1);
+        due("29: two wells aren't sure", x.belows(0, 3, 2), 0);
         due("29: sure if none agrees", x.belows(0, 1, 2), 1);
         due("29: d", x.belows(0, 2, 1), 22);
         due("29: sure", x.belows(0, 2, 2), 1);
         due("30: where it leads on day 2", x.cork(0, 5, 2, 0), 0);
         due("30: 2, or below", x.cork(0, 5, 2, 1), 2);
         due("30: 1, or below", x.cork(0, 5, 3, 1), 2);
+        due("30: day 1, all below or nowhere", x.cork(0, 5, 1, 1), 1);
+        due("30: day 99", x.cork(0, 5, 99, 1), 1);
         due("30: none differ: the least", x.cork(0, 5, 5, 0), 0);
         due("30: none differ", x.cork(0, 5, 5, 1), 1);
         x.find(0, 2, 2);
@@ -935,8 +957,12 @@ public final class PromisesTest {
         x.let(3, 0);
         write(x, "1");
         x.text(0);
-        text(x, 1, "0");
+        text(x, 1, "7");
+        text(x, 0, "9");
         x.forget();
+        x.find(2, 2, 9);
+        x.find(0, 0, 12);
+        x.check(0);
         x.tell(1);
         x.tell(2);
         x.floods(50);
@@ -952,10 +978,22 @@ public final class PromisesTest {
         again.voice(0, 0, 0);
         same("38: restoring", seenOf(x), seenOf(again));
         x.tell(5);
-        due("38: the tape", x.feed('1', 1), 3);
+        text(x, 1, "0");
+        due("38: the tape", x.feed('1', 1), 1);
+        x.restore();
+        x.feed('4', 1);
+        due("38: its bytes", x.text(1), 1);
+        due("38: 1+4", x.law(1, 0, 0, 0, 0), 5);
         due("38: it stays", x.restore(), 2);
         due("38: the numbers that wait", x.count(6), 1);
         due("38: those themselves", x.check(0), 1);
+        NineWells y = threeInARing();
+        y.tell(-1);
+        y.image();
+        y.check(0);
+        y.tell(9);
+        y.restore();
+        due("38: a number that waits", y.check(0), 0);
         x.days(7);
         due("37: twice", x.image(), 2);
         x.days(1);
