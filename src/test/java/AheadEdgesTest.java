@@ -20,10 +20,9 @@ public final class AheadEdgesTest extends Edges {
             for (int t = 0; t < 7; t++) for (int k = 0; k <= 7; k++) due("then(200, " + t + ", " + k + ")", x.then(200, t, k), y.ofThing(t, k));
         });
         edge(17, "n is any between: as behind so many DAYS", () -> {
-            NineWells y = lived();
             for (int n = 1; n <= 9; n++) {
-                y.days(1);
-                NineWells x = lived();
+                NineWells x = lived(), y = lived();
+                y.days(n);
                 for (int t = 0; t < 7; t++) for (int k = 0; k <= 7; k++) due("then(" + n + ", " + t + ", " + k + ")", x.then(n, t, k), y.ofThing(t, k));
             }
         });

@@ -217,7 +217,8 @@ abstract class Edges {
     }
 
     static void goTo(NineWells x, int day) {
-        while (x.count(0) < day) x.days(Math.min(100, day - x.count(0)));
+        int today = x.count(0);
+        while (today >= 0 && today < day) today = x.days(Math.min(100, day - today));
     }
 
     /** Five WELLS, seven THINGS, something of everything; SHEET 3 is missing, 1 is of other bits; an IMAGE unlike what is. */

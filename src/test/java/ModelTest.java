@@ -2,13 +2,15 @@ import java.util.Random;
 
 /** Long runs of calls with drawn arguments: NineWells answers each as the Model does. */
 public final class ModelTest {
-    private static final int RUNS = 1500;
-    private static final int CALLS = 512;
+    private static final int RUNS = 2500;
+    /** An object is used for 512 calls: all() makes 152 of them, and one that is begun may make 23. */
+    private static final int CALLS = 512 - 152 - 23;
     private static final int[] ODD = {Integer.MIN_VALUE, Integer.MIN_VALUE + 1, -1000, -2, -1, 41, 100, 201, 1000, Integer.MAX_VALUE - 1, Integer.MAX_VALUE};
     private static final String SIGNS = "0123456789wktms!()|&<=>+-*/% x";
 
     private final Random draws;
     private final boolean tame;
+    private int made;
 
     private ModelTest(long seed) {
         draws = new Random(seed);
@@ -59,6 +61,7 @@ public final class ModelTest {
     }
 
     private void same(String call, int got, int want) {
+        made++;
         if (got != want) {
             throw new IllegalStateException(call + " answered " + got + ", the model " + want);
         }
@@ -188,7 +191,7 @@ public final class ModelTest {
         if (draws.nextInt(12) == 0) {
             for (int i = 0; i < 98; i++) same("days(100)", x.days(100), y.days(100));
         }
-        for (int i = 0; i < CALLS; i++) one(x, y);
+        while (made < CALLS) one(x, y);
         all(x, y);
     }
 

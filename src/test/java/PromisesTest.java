@@ -23,7 +23,12 @@ public final class PromisesTest {
     }
 
     private static void write(NineWells x, String s) {
-        for (int i = 0; i < s.length(); i++) x.feed(s.charAt(i), 1);
+        for (int i = 0; i < s.length(); i += 8) {
+            int n = Math.min(8, s.length() - i);
+            long word = 0;
+            for (int k = n - 1; k >= 0; k--) word = word << 8 | s.charAt(i + k);
+            x.feed(word, n);
+        }
     }
 
     private static int text(NineWells x, int use, String s) {
@@ -563,7 +568,7 @@ public final class PromisesTest {
         NineWells x = threeInARing();
         String was = seenOf(x);
         for (int what = 0; what < 8; what++) due("17: none ahead", x.then(0, 0, what), x.ofThing(0, what));
-        for (int n = 0; n <= 200; n += 8) {
+        for (int n = 0; n <= 200; n += 40) {
             NineWells y = threeInARing();
             for (int i = 0; i < n / 8; i++) y.days(8);
             for (int what = 0; what < 8; what++) {

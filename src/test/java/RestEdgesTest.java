@@ -504,7 +504,7 @@ public final class RestEdgesTest extends Edges {
         edge(38, "the IMAGE stays: once more, and behind other changes", () -> {
             NineWells x = lived(), y = lived();
             y.restore();
-            for (int i = 0; i < 3; i++) {
+            for (int i = 0; i < 2; i++) {
                 due("restore()", x.restore(), 1);
                 due("restore()", whatIsAsked(x), whatIsAsked(y));
                 x.days(7);

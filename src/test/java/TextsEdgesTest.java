@@ -143,6 +143,13 @@ public final class TextsEdgesTest extends Edges {
             due("text(1), it ends too early", text(x, 1, "1" + "+1".repeat(24) + "+"), -60);
             due("law, the one ahead", x.law(1, 0, 0, 0, 0), 34);
         });
+        edge(13, "fifty bytes, each of them a NUMBER, a NAME or a sign", () -> {
+            NineWells x = new NineWells();
+            due("text(1)", text(x, 1, "!0" + "+1".repeat(24)), 1);
+            due("law", x.law(1, 0, 0, 0, 0), 25);
+            due("text(0)", text(x, 0, "!w" + "-k".repeat(24)), 1);
+            due("law", x.law(0, 0, -1, 0, 0), 25);
+        });
         edge(13, "fifty bytes of each depth of signs", () -> {
             NineWells x = new NineWells();
             due("text(1)", text(x, 1, "1" + "*1".repeat(24)), 1);
@@ -552,9 +559,10 @@ public final class TextsEdgesTest extends Edges {
             }
         });
         edge(16, "DAYS are 1 to 9, each WELL is led from and to", () -> {
-            NineWells x = fresh(9);
             int from = 0, to = 0, days = 0;
             for (int i = 0; i < 40; i++) {
+                NineWells x = fresh(9);
+                x.seed(i);
                 x.floods(5);
                 for (int w = 0; w < 9; w++) {
                     if (x.ofWell(w, 0) < 0) continue;
